@@ -36,14 +36,7 @@ public final class AnswerDays {
     private static final int NO_ROOM = -5;
     private static final int BAD_TEXT = -6;
 
-    private static final int ANSWERS = 0;
-    private static final int OWES = 1;
-    private static final int BARS = 2;
-    private static final int DO = 3;
-    private static final int PAY = 4;
-    private static final int WIND = 5;
-    private static final int PASS = 6;
-
+    // Words as TOKENS: their places in Tape.WORDS. What "doer" to "balance" stand for has the same place in a Reckoner.
     private static final int DOER_WORD = 0;
     private static final int SIGN_WORD = 1;
     private static final int KIND_WORD = 2;
@@ -57,19 +50,39 @@ public final class AnswerDays {
     private static final int LATEST_WORD = 10;
     private static final int EVEN_WORD = 11;
     private static final int BALANCE_WORD = 12;
-    private static final int CLOCK_WORD = BALANCE_WORD + PEOPLE;
-    private static final int WORDS = CLOCK_WORD + PLACES;
+    private static final int CLOCK_WORD = 13;
+    private static final int ANSWERS = 14;
+    private static final int OWES = 15;
+    private static final int BARS = 16;
+    private static final int DO = 17;
+    private static final int PAY = 18;
+    private static final int WIND = 19;
+    private static final int PASS = 20;
+    private static final int BY = 21;
+    private static final int TO = 22;
+    private static final int AT = 23;
+    private static final int TIMES = 24;
+    private static final int IF = 25;
+    private static final int OR = 26;
+    private static final int AND = 27;
+    private static final int NOT = 28;
+    // The other TOKENS; a single byte is SINGLE and that byte.
+    private static final int STRANGE = 29;
+    private static final int NUMERAL = 30;
+    private static final int END = 31;
+    private static final int SINGLE = 32;
 
+    // Steps of the code of a Text.
     private static final int STOP = 0;
     private static final int NUMBER = 1;
     private static final int WORD = 2;
-    private static final int NOT = 3;
-    private static final int AND = 4;
-    private static final int OR = 5;
+    private static final int TURN = 3;
+    private static final int UNLESS_SO = 4;
+    private static final int IF_SO = 5;
     private static final int PLUS = 6;
     private static final int MINUS = 7;
-    private static final int TIMES = 8;
-    private static final int DIVIDED = 9;
+    private static final int MULTIPLY = 8;
+    private static final int DIVIDE = 9;
     private static final int REST = 10;
     private static final int LESS = 11;
     private static final int MORE = 12;
@@ -505,9 +518,21 @@ public final class AnswerDays {
         return isWithin(kind, 0, MOST_KIND) && isWithin(worth, 1, MOST_WORTH);
     }
 
-    /** The bytes that have been fed and not yet been used. */
+    /** The bytes that have been fed and not yet been used, and the TOKENS that they make. */
     private static final class Tape {
+        // A blank stands behind each, the last one too.
+        static final String WORDS = "doer sign kind worth place date week mood day done latest even balance clock answers owes bars do pay wind pass by to at times if or and not ";
+        static final int MOST_NUMBER = 1000;
+        static final int BLANK = 0;
+        static final int LETTER = 1;
+        static final int DIGIT = 2;
+        static final int OTHER = 3;
+
         final int[] bytes = new int[BYTES];
+        final int[] codes = new int[BYTES + 1];
+        final int[] starts = new int[BYTES + 1];
+        final int[] ends = new int[BYTES + 1];
+        final int[] numbers = new int[BYTES + 1];
         int size;
 
         void take(int number) {
@@ -515,6 +540,79 @@ public final class AnswerDays {
                 bytes[size] = (number >> shift) & 255;
                 size++;
             }
+        }
+
+        /** Makes TOKENS of all bytes; the last one is the end's. */
+        void cut() {
+            int tokens = 0;
+            int before = BLANK;
+            for (int i = 0; i < size; i++) {
+                int kind = kindOf(bytes[i]);
+                if (kind == OTHER || kind != BLANK && kind != before) {
+                    starts[tokens] = i;
+                    tokens++;
+                }
+                if (kind != BLANK) {
+                    ends[tokens - 1] = i + 1;
+                }
+                before = kind;
+            }
+            for (int token = 0; token < tokens; token++) {
+                name(token);
+            }
+            starts[tokens] = size;
+            codes[tokens] = END;
+        }
+
+        private void name(int token) {
+            int sign = bytes[starts[token]];
+            int kind = kindOf(sign);
+            if (kind == LETTER) {
+                codes[token] = wordOf(starts[token], ends[token]);
+            } else if (kind == DIGIT) {
+                codes[token] = NUMERAL;
+                numbers[token] = numberOf(starts[token], ends[token]);
+            } else {
+                codes[token] = SINGLE + sign;
+            }
+        }
+
+        private int wordOf(int start, int end) {
+            int word = 0;
+            // How many letters are the same so far, NONE behind one that is not.
+            int same = 0;
+            for (int i = 0; i < WORDS.length(); i++) {
+                char letter = WORDS.charAt(i);
+                if (letter == ' ') {
+                    if (same == end - start) {
+                        return word;
+                    }
+                    word++;
+                    same = 0;
+                } else if (same != NONE) {
+                    same = start + same < end && bytes[start + same] == letter ? same + 1 : NONE;
+                }
+            }
+            return STRANGE;
+        }
+
+        /** Beyond what may stand anywhere it does not matter how far. */
+        private int numberOf(int start, int end) {
+            int number = 0;
+            for (int i = start; i < end; i++) {
+                number = Math.min(10 * number + bytes[i] - '0', MOST_NUMBER + 1);
+            }
+            return number;
+        }
+
+        private static int kindOf(int sign) {
+            if (sign == ' ') {
+                return BLANK;
+            }
+            if (sign >= 'a' && sign <= 'z') {
+                return LETTER;
+            }
+            return sign >= '0' && sign <= '9' ? DIGIT : OTHER;
         }
     }
 
@@ -567,11 +665,13 @@ public final class AnswerDays {
             starts[4 * clause + part] = size;
         }
 
-        void emit(int op, int with) {
+        /** Where the step stands. */
+        int emit(int op, int with) {
             if (size < code.length) {
                 code[size] = op + 16 * with;
                 size++;
             }
+            return size - 1;
         }
 
         /** The jump that stands there goes to what comes next. */
@@ -582,25 +682,17 @@ public final class AnswerDays {
         }
     }
 
-    /** Reads the TAPE into a draft; what reads stops at the FAULT with the TOKEN that can't go on. */
+    /** Reads the TAPE's TOKENS into a draft; what reads stops at the one that can't go on: the FAULT. */
     private static final class Reader {
         static final int MOST_PARTS = 50;
         static final int MOST_BRACKETS = 8;
-        static final int MOST_NUMBER = 1000;
         static final int MOST_TIMES = 20;
-        static final int AT_END = 0;
-        static final int LETTERS = 1;
-        static final int DIGITS = 2;
-        static final int OTHER = 3;
 
-        final Tape tape;
+        private final Tape tape;
         final Text draft = new Text(Text.MOST_CLAUSES, Text.MOST_CODE);
         private boolean ofOrders;
         private int parts;
-        private int tokenKind;
-        private int tokenStart;
-        private int tokenEnd;
-        private int tokenNumber;
+        private int next;
 
         Reader(Tape tape) {
             this.tape = tape;
@@ -610,71 +702,60 @@ public final class AnswerDays {
         int read(boolean asOrders) {
             ofOrders = asOrders;
             parts = 0;
+            next = 0;
             draft.clauses = 0;
             draft.size = 0;
-            tokenEnd = 0;
-            step();
-            for (int clause = 0; clause < Text.MOST_CLAUSES; clause++) {
+            tape.cut();
+            boolean more = true;
+            for (int clause = 0; clause < Text.MOST_CLAUSES && more; clause++) {
                 draft.open(clause);
-                if (!(ofOrders ? readOrder(clause) : readLaw(clause))) {
-                    return tokenStart;
+                if (!(ofOrders ? readOrder(clause) : readLaw(clause)) || !readIf(clause)) {
+                    return tape.starts[next];
                 }
-                if (tokenKind == AT_END) {
-                    return NONE;
-                }
-                if (!skipSign(';')) {
-                    return tokenStart;
-                }
+                more = skip(SINGLE + ';');
             }
-            return tokenStart;
+            return !more && is(END) ? NONE : tape.starts[next];
         }
 
         private boolean readLaw(int clause) {
-            if (skipWord("bars")) {
-                draft.kinds[clause] = BARS;
-            } else if (skipWord("answers")) {
-                draft.kinds[clause] = ANSWERS;
-            } else if (skipWord("owes")) {
-                draft.kinds[clause] = OWES;
-            } else {
-                return false;
+            int kind = tape.codes[next];
+            draft.kinds[clause] = kind;
+            if (kind != ANSWERS && kind != OWES) {
+                return skip(BARS);
             }
-            return (draft.kinds[clause] == BARS || readSumOf(clause, 0)) && readIf(clause);
+            next++;
+            return readSumOf(clause, 0);
         }
 
         private boolean readOrder(int clause) {
+            draft.kinds[clause] = tape.codes[next];
             boolean good;
-            if (skipWord("do")) {
-                draft.kinds[clause] = DO;
-                good = readSumOf(clause, 0) && skipWord("by") && readSumOf(clause, 1)
-                    && skipWord("at") && readSumOf(clause, 2);
-            } else if (skipWord("pay")) {
-                draft.kinds[clause] = PAY;
-                good = readSumOf(clause, 0) && skipWord("to") && readSumOf(clause, 1);
-            } else if (skipWord("wind")) {
-                draft.kinds[clause] = WIND;
+            if (skip(DO)) {
+                good = readSumOf(clause, 0) && skip(BY) && readSumOf(clause, 1) && skip(AT) && readSumOf(clause, 2);
+            } else if (skip(PAY)) {
+                good = readSumOf(clause, 0) && skip(TO) && readSumOf(clause, 1);
+            } else if (skip(WIND)) {
                 good = readSumOf(clause, 0);
             } else {
-                draft.kinds[clause] = PASS;
-                good = skipWord("pass");
+                good = skip(PASS);
             }
-            return good && readTimes(clause) && readIf(clause);
+            return good && readTimes(clause);
         }
 
         private boolean readTimes(int clause) {
-            if (!skipWord("times")) {
+            if (!skip(TIMES)) {
                 return true;
             }
-            if (tokenKind != DIGITS || !isWithin(tokenNumber, 1, MOST_TIMES)) {
+            if (!isNumber(1, MOST_TIMES)) {
                 return false;
             }
-            draft.times[clause] = tokenNumber;
-            step();
+            draft.times[clause] = tape.numbers[next];
+            next++;
             return true;
         }
 
         private boolean readIf(int clause) {
-            if (!skipWord("if")) {
+            if (!skip(IF)) {
                 return true;
             }
             draft.begin(clause, Text.TEST_PART);
@@ -694,273 +775,151 @@ public final class AnswerDays {
             return true;
         }
 
+        /** What stands behind an "and", an "or" is jumped over if it can't matter. */
         private boolean readTest(int depth) {
-            int jump = NONE;
-            for (int i = 0; i < BYTES; i++) {
-                if (!readBoth(depth)) {
-                    return false;
-                }
-                draft.aim(jump);
-                if (!skipWord("or")) {
-                    return true;
-                }
-                jump = draft.size;
-                draft.emit(OR, 0);
-            }
-            return false;
-        }
-
-        private boolean readBoth(int depth) {
-            int jump = NONE;
+            int overAnd = NONE;
+            int overOr = NONE;
             for (int i = 0; i < BYTES; i++) {
                 if (!readPlain(depth)) {
                     return false;
                 }
-                draft.aim(jump);
-                if (!skipWord("and")) {
-                    return true;
+                draft.aim(overAnd);
+                if (skip(AND)) {
+                    overAnd = draft.emit(UNLESS_SO, 0);
+                } else {
+                    overAnd = NONE;
+                    draft.aim(overOr);
+                    if (!skip(OR)) {
+                        return true;
+                    }
+                    overOr = draft.emit(IF_SO, 0);
                 }
-                jump = draft.size;
-                draft.emit(AND, 0);
             }
             return false;
         }
 
         private boolean readPlain(int depth) {
             boolean turned = false;
-            // A row of "not" is no deeper than one: a hundred of them fit on the TAPE.
-            for (int i = 0; i < BYTES && skipWord("not"); i++) {
+            // A row of "not" goes no deeper than one: a hundred of them fit on the TAPE.
+            for (int i = 0; i < BYTES && skip(NOT); i++) {
                 turned = !turned;
             }
-            if (!(isSign('(') ? readBracket(depth) : readComparison(depth))) {
-                return false;
+            if (is(SINGLE + '(')) {
+                if (depth >= MOST_BRACKETS) {
+                    return false;
+                }
+                next++;
+                if (!readTest(depth + 1) || !skip(SINGLE + ')')) {
+                    return false;
+                }
+            } else {
+                if (!readSum(depth)) {
+                    return false;
+                }
+                int op = is(SINGLE + '<') ? LESS : is(SINGLE + '>') ? MORE : is(SINGLE + '=') ? SAME : NONE;
+                if (op == NONE) {
+                    return false;
+                }
+                next++;
+                if (!readSum(depth)) {
+                    return false;
+                }
+                draft.emit(op, 0);
             }
             if (turned) {
-                draft.emit(NOT, 0);
+                draft.emit(TURN, 0);
             }
-            return true;
-        }
-
-        private boolean readBracket(int depth) {
-            if (depth >= MOST_BRACKETS) {
-                return false;
-            }
-            step();
-            return readTest(depth + 1) && skipSign(')');
-        }
-
-        private boolean readComparison(int depth) {
-            if (!readSum(depth)) {
-                return false;
-            }
-            int op = isSign('<') ? LESS : isSign('>') ? MORE : isSign('=') ? SAME : NONE;
-            if (op == NONE) {
-                return false;
-            }
-            step();
-            if (!readSum(depth)) {
-                return false;
-            }
-            draft.emit(op, 0);
             return true;
         }
 
         private boolean readSum(int depth) {
-            int op = NONE;
-            for (int i = 0; i < BYTES; i++) {
-                if (!readTerm(depth)) {
-                    return false;
-                }
-                if (op != NONE) {
-                    draft.emit(op, 0);
-                }
-                op = isSign('+') ? PLUS : isSign('-') ? MINUS : NONE;
-                if (op == NONE) {
-                    return true;
-                }
-                step();
-            }
-            return false;
-        }
-
-        private boolean readTerm(int depth) {
-            int op = NONE;
+            int adding = NONE;
+            int scaling = NONE;
             for (int i = 0; i < BYTES; i++) {
                 if (!readPart(depth)) {
                     return false;
                 }
-                if (op != NONE) {
-                    draft.emit(op, 0);
+                if (scaling != NONE) {
+                    draft.emit(scaling, 0);
                 }
-                op = isSign('*') ? TIMES : isSign('/') ? DIVIDED : isSign('%') ? REST : NONE;
-                if (op == NONE) {
-                    return true;
+                scaling = is(SINGLE + '*') ? MULTIPLY : is(SINGLE + '/') ? DIVIDE : is(SINGLE + '%') ? REST : NONE;
+                if (scaling == NONE) {
+                    if (adding != NONE) {
+                        draft.emit(adding, 0);
+                    }
+                    adding = is(SINGLE + '+') ? PLUS : is(SINGLE + '-') ? MINUS : NONE;
+                    if (adding == NONE) {
+                        return true;
+                    }
                 }
-                step();
+                next++;
             }
             return false;
         }
 
         private boolean readPart(int depth) {
-            if (isSign('[')) {
+            if (is(SINGLE + '[')) {
                 if (depth >= MOST_BRACKETS) {
                     return false;
                 }
-                step();
-                return readSum(depth + 1) && skipSign(']');
+                next++;
+                return readSum(depth + 1) && skip(SINGLE + ']');
             }
             if (parts >= MOST_PARTS) {
                 return false;
             }
             parts++;
-            return tokenKind == DIGITS ? readNumber() : readWord();
-        }
-
-        private boolean readNumber() {
-            if (tokenNumber > MOST_NUMBER) {
+            if (is(NUMERAL)) {
+                return readNumber(NUMBER, 0, Tape.MOST_NUMBER);
+            }
+            if (!isWithin(tape.codes[next], ofOrders ? DAY_WORD : DOER_WORD, ofOrders ? CLOCK_WORD : MOOD_WORD)) {
                 return false;
             }
-            draft.emit(NUMBER, tokenNumber);
-            step();
-            return true;
-        }
-
-        private boolean readWord() {
-            int word = ofOrders ? orderWord() : lawWord();
-            if (word == NONE) {
-                return false;
-            }
-            step();
+            int word = tape.codes[next];
+            next++;
             if (word == BALANCE_WORD) {
-                return readWhich(word, PEOPLE);
+                return readNumber(WORD, BALANCE_WORD, PEOPLE - 1);
             }
             if (word == CLOCK_WORD) {
-                return readWhich(word, PLACES);
+                return readNumber(WORD, Reckoner.CLOCKS_FROM, PLACES - 1);
             }
             draft.emit(WORD, word);
             return true;
         }
 
-        private boolean readWhich(int word, int many) {
-            if (tokenKind != DIGITS || tokenNumber >= many) {
+        private boolean readNumber(int op, int from, int most) {
+            if (!isNumber(0, most)) {
                 return false;
             }
-            draft.emit(WORD, word + tokenNumber);
-            step();
+            draft.emit(op, from + tape.numbers[next]);
+            next++;
             return true;
         }
 
-        private int lawWord() {
-            if (isWord("doer")) {
-                return DOER_WORD;
-            }
-            if (isWord("sign")) {
-                return SIGN_WORD;
-            }
-            if (isWord("kind")) {
-                return KIND_WORD;
-            }
-            if (isWord("worth")) {
-                return WORTH_WORD;
-            }
-            if (isWord("place")) {
-                return PLACE_WORD;
-            }
-            if (isWord("date")) {
-                return DATE_WORD;
-            }
-            if (isWord("week")) {
-                return WEEK_WORD;
-            }
-            return isWord("mood") ? MOOD_WORD : NONE;
+        private boolean isNumber(int least, int most) {
+            return tape.codes[next] == NUMERAL && tape.numbers[next] >= least && tape.numbers[next] <= most;
         }
 
-        private int orderWord() {
-            if (isWord("day")) {
-                return DAY_WORD;
-            }
-            if (isWord("done")) {
-                return DONE_WORD;
-            }
-            if (isWord("latest")) {
-                return LATEST_WORD;
-            }
-            if (isWord("even")) {
-                return EVEN_WORD;
-            }
-            if (isWord("balance")) {
-                return BALANCE_WORD;
-            }
-            return isWord("clock") ? CLOCK_WORD : NONE;
+        private boolean is(int code) {
+            return tape.codes[next] == code;
         }
 
-        private void step() {
-            int next = tokenEnd;
-            while (next < tape.size && tape.bytes[next] == ' ') {
-                next++;
-            }
-            tokenStart = next;
-            tokenKind = kindAt(next);
-            tokenNumber = 0;
-            boolean goesOn = next < tape.size;
-            while (next < tape.size && goesOn) {
-                if (tokenKind == DIGITS) {
-                    // Beyond what may stand anywhere it does not matter how far.
-                    tokenNumber = Math.min(10 * tokenNumber + tape.bytes[next] - '0', MOST_NUMBER + 1);
-                }
-                next++;
-                goesOn = tokenKind != OTHER && kindAt(next) == tokenKind;
-            }
-            tokenEnd = next;
-        }
-
-        private int kindAt(int i) {
-            if (i >= tape.size) {
-                return AT_END;
-            }
-            int sign = tape.bytes[i];
-            if (isWithin(sign, 'a', 'z')) {
-                return LETTERS;
-            }
-            return isWithin(sign, '0', '9') ? DIGITS : OTHER;
-        }
-
-        private boolean isSign(char sign) {
-            return tokenKind == OTHER && tape.bytes[tokenStart] == sign;
-        }
-
-        private boolean isWord(String word) {
-            if (tokenKind != LETTERS || tokenEnd - tokenStart != word.length()) {
+        /** Never goes beyond the end, which is no CLAUSE's TOKEN. */
+        private boolean skip(int code) {
+            if (tape.codes[next] != code) {
                 return false;
             }
-            for (int i = 0; i < word.length(); i++) {
-                if (tape.bytes[tokenStart + i] != word.charAt(i)) {
-                    return false;
-                }
-            }
+            next++;
             return true;
-        }
-
-        private boolean skipSign(char sign) {
-            boolean is = isSign(sign);
-            if (is) {
-                step();
-            }
-            return is;
-        }
-
-        private boolean skipWord(String word) {
-            boolean is = isWord(word);
-            if (is) {
-                step();
-            }
-            return is;
         }
     }
 
     /** Works out SUMS and TESTS of a Text by what its words stand for now. */
     private static final class Reckoner {
         static final int BEYOND = 1000000000;
+        // A BALANCE of each PERSON, then a CLOCK of each PLACE.
+        static final int CLOCKS_FROM = BALANCE_WORD + PEOPLE;
+        static final int WORDS = CLOCKS_FROM + PLACES;
 
         final int[] words = new int[WORDS];
         // Eight brackets leave at most two numbers each to come back to.
@@ -997,10 +956,10 @@ public final class AnswerDays {
                 } else if (op == STOP) {
                     broken = false;
                     return stack[0];
-                } else if (op == NOT) {
+                } else if (op == TURN) {
                     stack[top - 1] = 1 - stack[top - 1];
-                } else if (op == AND || op == OR) {
-                    if (stack[top - 1] == (op == AND ? 0 : 1)) {
+                } else if (op == UNLESS_SO || op == IF_SO) {
+                    if (stack[top - 1] == (op == UNLESS_SO ? 0 : 1)) {
                         next = with;
                     } else {
                         top--;
@@ -1021,8 +980,8 @@ public final class AnswerDays {
             switch (op) {
                 case PLUS: return one + other;
                 case MINUS: return one - other;
-                case TIMES: return one * other;
-                case DIVIDED: return other == 0 ? BEYOND + 1 : one / other;
+                case MULTIPLY: return one * other;
+                case DIVIDE: return other == 0 ? BEYOND + 1 : one / other;
                 case REST: return other == 0 ? BEYOND + 1 : one % other;
                 case LESS: return one < other ? 1 : 0;
                 case MORE: return one > other ? 1 : 0;
@@ -1382,7 +1341,7 @@ public final class AnswerDays {
                 words[BALANCE_WORD + person] = land.hasPerson(person) ? land.balances[person] : NONE;
             }
             for (int place = 0; place < PLACES; place++) {
-                words[CLOCK_WORD + place] = land.clocks[place];
+                words[Reckoner.CLOCKS_FROM + place] = land.clocks[place];
             }
         }
 

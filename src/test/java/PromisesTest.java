@@ -288,6 +288,17 @@ public final class PromisesTest {
         due("p12 last", x.at(5, 1), 4);
         Check.put(x, 1);
         due("p12 none came", x.row(), 0);
+        AnswerDays y = new AnswerDays();
+        y.feed(0x01010101, 0, 0, 0, 0);
+        y.end(3);
+        due("p12 what was cut off is not read", y.row(), 1);
+        due("p12 a half is a blot", y.blots(), 1);
+        for (int i = 0; i < 20; i++) {
+            y.feed(0x03090309, 0x03090309, 0x03090309, 0x03090309, 0x03090309);
+        }
+        y.end(399);
+        due("p12 of a full tape", y.row(), 5);
+        due("p12 of a full tape", y.blots(), 195);
     }
 
     private static void blots() {
@@ -328,6 +339,15 @@ public final class PromisesTest {
         due("p14 wrong, tape empty", Check.law(y, "owes"), -6);
         due("p14 tape is empty", y.count(6), 0);
         due("p14 no law came", y.count(4), 0);
+        Check.put(y, Check.bytesOf("owes 123 bars"));
+        y.end(7);
+        due("p14 what was cut off is not read", y.law(), 0);
+        y.force(0);
+        due("p14 a number is cut, too", y.asks(0, 0, 0, 0), 12);
+        Check.put(y, Check.bytesOf("owes 3 + mood"));
+        y.end(12);
+        due("p14 a word is cut, too", y.law(), -6);
+        due("p14 a word is cut, too", y.fault(), 9);
     }
 
     private static void faultAt(String text, int place) {
@@ -376,6 +396,14 @@ public final class PromisesTest {
         faultAt("bars\n", 4);
         faultAt("bars \u00ff", 5);
         faultAt("pass", 0);
+        faultAt("xars", 0);
+        faultAt("barz", 0);
+        faultAt("bar", 0);
+        faultAt("barss", 0);
+        faultAt("bars1", 4);
+        faultAt("owes doe", 5);
+        faultAt("owes xoer", 5);
+        faultAt("owes 1 iff 1 = 1", 7);
         faultAt("owes doer+sign+kind+worth+place+date+week+mood", NONE);
     }
 
@@ -697,6 +725,20 @@ public final class PromisesTest {
         due("p20 one far below", y.of(0, 1), -9999);
         due("p20 not beyond", y.pay(1, 0, 1), -3);
         due("p20 but from others", y.pay(1, 2, 1), 1 + 51 * 99 + 9999);
+        AnswerDays z = land(3, 1);
+        for (int i = 0; i < 101; i++) {
+            z.pay(0, 1 + i % 2, 99);
+        }
+        due("p20 one far above", z.of(0, 1), 9999);
+        due("p20 not beyond", z.pay(0, 1, 1), -3);
+        due("p20 others may", z.pay(2, 1, 1), 1 - 50 * 99 + 9999);
+        due("p19 what moves nothing can be", z.commit(0, 0, 0), 0);
+        z.force(Check.law(z, "answers 9"));
+        due("p19 what moves nothing can be", z.commit(0, 0, 0), 6);
+        z.force(Check.law(z, "answers 1;owes 0"));
+        due("p19 what moves nothing can be", z.commit(0, 0, 0), 1);
+        z.force(Check.law(z, "answers 1;owes 1"));
+        due("p19 the doer's would be beyond", z.commit(0, 0, 0), -3);
     }
 
     private static void wind() {
@@ -748,6 +790,21 @@ public final class PromisesTest {
         }
         due("p23 no more", x.undo(), -3);
         due("p23 the oldest stays", x.count(13), 1);
+        for (int i = 0; i < 6; i++) {
+            x.wind(i % 4, 1 + i % 6);
+            x.pay(i % 2, 1 - i % 2, 10 + i);
+            x.commit(0, i % 2, 0);
+            x.pass();
+        }
+        for (int i = 5; i >= 2; i--) {
+            due("p23 one behind the other", x.undo(), 3);
+            due("p23 one behind the other", x.undo(), 0);
+            due("p23 one behind the other", x.undo(), 1);
+            due("p23 one behind the other", x.undo(), 2);
+            due("p23 clock as it was", x.place(i % 4, 0), i >= 4 ? 1 + i - 4 : 0);
+            due("p23 balance as it was", x.of(0, 1), i % 2 == 0 ? -(i / 2) : 10 + i - i / 2);
+        }
+        due("p23 the rest is too old", x.undo(), -3);
         Check.orders(x, "pass;wind 1;pay 0 to 1;do 0 by 1 at 1");
         due("p23 by orders", x.undo(), 0);
         due("p23 by orders", x.undo(), 1);
@@ -914,6 +971,10 @@ public final class PromisesTest {
         due("p29 deed", x.walk(1, 0, 0, 3, 0), NONE);
         due("p29 doer", x.walk(0, 2, 0, 3, 0), NONE);
         due("p29 place", x.walk(0, 0, 4, 3, 0), NONE);
+        AnswerDays z = land(1, 1, "answers 9 if place = 3");
+        z.road(0, 3, 1);
+        due("p29 to the last place", z.walk(0, 0, 0, 3, 0), 1);
+        due("p29 to the last place", z.walk(0, 0, 0, 3, 3), 3);
         AnswerDays y = land(1, 1, "answers 9 if place = 2");
         y.road(0, 1, 1);
         y.road(1, 2, 1);
@@ -996,6 +1057,14 @@ public final class PromisesTest {
         due("p33 the day seen", x.doers(), 7);
         x.force(NONE);
         due("p33 by the law in force", x.doers(), 0);
+        AnswerDays y = land(6, 3, "answers doer;answers 0 if kind = 1 and doer < 4;answers 1 if place = 3 and doer > 1;answers 9 if date = 7");
+        y.seen(1, 1, 0, 0);
+        y.seen(2, 0, 3, 1);
+        due("p33 each by its own deed and place", y.doers(), 14);
+        y.seen(7, 2, 2, 6);
+        due("p33 each by its own day", y.doers(), 14);
+        y.seen(8, 2, 2, 3);
+        due("p33 one is left", y.doers(), 8);
     }
 
     private static void look() {
