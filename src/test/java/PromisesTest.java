@@ -210,6 +210,7 @@ public final class PromisesTest {
         due("p8 what", x.asks(0, 0, 0, 2), NONE);
         due("p8 what", x.asks(0, 0, 0, -1), NONE);
         due("p8 deed", x.asks(-1, 0, 0, 0), NONE);
+        due("p8 a law at the end of a full tape", land(1, 1, "owes 9" + " ".repeat(392) + "+7").asks(0, 0, 0, 0), 16);
         AnswerDays y = land(1, 1, "owes date;bars if date = 3");
         y.terms(0, 2);
         due("p8 now", y.asks(0, 0, 0, 0), 2);
@@ -401,6 +402,12 @@ public final class PromisesTest {
         faultAt("bar", 0);
         faultAt("barss", 0);
         faultAt("bars1", 4);
+        faultAt("barsz", 0);
+        faultAt("barsa", 0);
+        faultAt("bars\0", 4);
+        faultAt("bars\0;bars", 4);
+        faultAt("owes 1/2:", 8);
+        faultAt("owes `", 5);
         faultAt("owes doe", 5);
         faultAt("owes xoer", 5);
         faultAt("owes 1 iff 1 = 1", 7);
@@ -433,6 +440,12 @@ public final class PromisesTest {
         faultAt("owes 1" + " ".repeat(394), NONE);
         faultAt("owes 1" + " ".repeat(393) + "1", 399);
         faultAt("owes +" + " ".repeat(394), 5);
+        faultAt("+".repeat(400), 0);
+        faultAt("x".repeat(400), 0);
+        faultAt("bars;".repeat(80), 60);
+        faultAt("owes " + "0".repeat(394) + "7", NONE);
+        faultAt("owes " + "0".repeat(391) + "1001", 5);
+        faultAt("bars if " + "(1=1)or".repeat(24) + "(1=1)" + " ".repeat(400 - 8 - 24 * 7 - 5), NONE);
     }
 
     /** What asks() tells of a law that owes a sum. */
