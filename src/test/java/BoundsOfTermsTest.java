@@ -333,5 +333,9 @@ public final class BoundsOfTermsTest {
         T.refused("in order: back() to none such that was not kept", AnswerDays::new, x -> x.back(2), -1);
         Supplier<AnswerDays> wrongText = () -> Lands.with(Lands.crowded(), "owes");
         T.refusedAsReader("in order: law() of a wrong text, no room", wrongText, AnswerDays::law, -5);
+        // What can't be read is not run: the order that can't be does not come into it.
+        Supplier<AnswerDays> neither = () -> Lands.with(Lands.crowded(), "pass;wind 9;x");
+        T.refusedAsReader("in order: orders() of a wrong text with one that can't be", neither, AnswerDays::orders, -6);
+        due("in order: none stopped", Lands.after(neither.get(), AnswerDays::orders).stopped(), NONE);
     }
 }
