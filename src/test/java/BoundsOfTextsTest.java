@@ -91,6 +91,14 @@ public final class BoundsOfTextsTest {
         lawFault("owes " + "9".repeat(395), 5);
         lawFault("[".repeat(400), 0);
         lawFault(";".repeat(400), 0);
+        lawFault(";".repeat(399) + "1", 0);
+        AnswerDays again = new AnswerDays();
+        for (int i = 0; i < 3; i++) {
+            due("400 tokens, text by text", Check.law(again, ";".repeat(400)), -6);
+            due("400 tokens, text by text", again.fault(), 0);
+            due("400 tokens, text by text", Check.law(again, "owes " + "9".repeat(395)), -6);
+            due("400 tokens, text by text", again.fault(), 5);
+        }
         lawFault("bars if" + "(".repeat(393), 15);
         lawFault("owes" + "[".repeat(396), 12);
         lawFault("bars if " + "not ".repeat(97) + "1=1", NONE);
@@ -308,6 +316,21 @@ public final class BoundsOfTextsTest {
         lawFault(many("bars if 1", "+1", 49) + "=1", NONE);
         lawFault(many("bars if 1", "+1", 50) + "=1", 8 + 50 * 2);
         lawFault(many("bars if 1", "+1", 51) + "=1", 8 + 50 * 2);
+        // Where the 51st would stand, what is no part can't go on either.
+        lawFault(many("owes 1", "+1", 50) + "+", 105);
+        lawFault(many("owes 1", "+1", 50) + "+;bars", 105);
+        lawFault(many("owes 1", "+1", 50) + "+if 1=1", 105);
+        lawFault(many("owes 1", "+1", 50) + "++1", 105);
+        lawFault(many("owes 1", "+1", 50) + "+[1]", 106);
+        lawFault(many("owes 1", "+1", 50) + ";owes", 109);
+        lawFault(many("owes 1", "+1", 50) + ";owes;bars", 109);
+        lawFault(many("owes 1", "+1", 50) + " if", 107);
+        lawFault(many("owes 1", "+1", 50) + " if;bars", 107);
+        lawFault(many("bars if 1", "+1", 50) + "=;bars", 108);
+        lawFault(many("bars if 1", "+1", 49) + "=1 and;bars", 8 + 97 + 2 + 4);
+        ordersFault(many("wind 1", "+1", 50) + "+times 2", 105);
+        ordersFault(many("wind 1", "+1", 50) + ";wind;pass", 109);
+        ordersFault(many("do 1", "+1", 50) + "by at 1", 3 + 99 + 3);
         // Of all clauses together.
         lawFault(many("owes 1", "+1", 49) + ";owes 1", NONE);
         lawFault(many("owes 1", "+1", 50) + ";bars", NONE);
