@@ -709,8 +709,15 @@ public final class AnswerDays {
             boolean more = true;
             for (int clause = 0; clause < Text.MOST_CLAUSES && more; clause++) {
                 draft.open(clause);
-                if (!(ofOrders ? readOrder(clause) : readLaw(clause)) || !readIf(clause)) {
+                if (!(ofOrders ? readOrder(clause) : readLaw(clause))) {
                     return tape.starts[next];
+                }
+                if (skip(IF)) {
+                    draft.begin(clause, Text.TEST_PART);
+                    if (!readTest(0)) {
+                        return tape.starts[next];
+                    }
+                    draft.emit(STOP, 0);
                 }
                 more = skip(SINGLE + ';');
             }
@@ -751,18 +758,6 @@ public final class AnswerDays {
             }
             draft.times[clause] = tape.numbers[next];
             next++;
-            return true;
-        }
-
-        private boolean readIf(int clause) {
-            if (!skip(IF)) {
-                return true;
-            }
-            draft.begin(clause, Text.TEST_PART);
-            if (!readTest(0)) {
-                return false;
-            }
-            draft.emit(STOP, 0);
             return true;
         }
 
@@ -946,7 +941,7 @@ public final class AnswerDays {
                 int with = text.code[next] >> 4;
                 next++;
                 if (op == NUMBER || op == WORD) {
-                    if (top >= stack.length) {
+                    if (top >= stack.length || op == WORD && with >= words.length) {
                         return 0;
                     }
                     stack[top] = op == NUMBER ? with : words[with];
